@@ -687,10 +687,8 @@ public final class PunchByHeart {
         for (int k = 0; k < booth.beats; k++) {
             int holds = 0;
             for (int left = NOTHING; left < booth.dolls; left++) {
-                for (int right = NOTHING; right < booth.dolls; right++) {
-                    if (isDrawn(drawing, k, left) && booth.isSuited(k, left, right)) {
-                        holds++;
-                    }
+                if (isDrawn(drawing, k, left)) {
+                    holds += Integer.bitCount(booth.rightsBeside(k, left));
                 }
             }
             // A later beat may still make it none: so this goes on behind the most, too.
@@ -702,13 +700,12 @@ public final class PunchByHeart {
     private int rightsBy(Sheet drawing, int beat) {
         int set = 0;
         for (int left = NOTHING; left < booth.dolls; left++) {
-            for (int right = 0; right < booth.dolls; right++) {
-                if (isDrawn(drawing, beat, left) && booth.isSuited(beat, left, right)) {
-                    set |= 1 << right;
-                }
+            if (isDrawn(drawing, beat, left)) {
+                set |= booth.rightsBeside(beat, left);
             }
         }
-        return set;
+        // Less the place of nothing, this is a set of dolls.
+        return set >> 1;
     }
 
     private boolean isDrawn(Sheet drawing, int beat, int left) {
@@ -1033,21 +1030,30 @@ public final class PunchByHeart {
             }
         }
 
+        /**
+         * What the right hand may hold beside what the left one holds, so that this is a hold that
+         * suits a beat: a set with 1 for nothing, 2 for doll 0, 4 for doll 1, and so on.
+         */
+        int rightsBeside(int beat, int inLeft) {
+            int cast = castOf(beat);
+            if (!isDollOrNone(inLeft)) {
+                return 0;
+            }
+            if (contains(cast, inLeft) && wantOf(inLeft) == Kinds.RIGHT_HAND) {
+                return 0;
+            }
+            int rest = cast & ~bit(inLeft);
+            if (rest == 0) {
+                return (2 << dolls) - 1 & ~(2 * bit(inLeft));
+            }
+            int one = Integer.numberOfTrailingZeros(rest);
+            boolean isHeld = rest == bit(one) && wantOf(one) != Kinds.LEFT_HAND;
+            return isHeld ? 2 * rest : 0;
+        }
+
         /** Whether two numbers are a hold at all, and one that suits a beat. */
         boolean isSuited(int beat, int inLeft, int inRight) {
-            if (!isDollOrNone(inLeft) || !isDollOrNone(inRight)) {
-                return false;
-            }
-            if (inLeft != NOTHING && inLeft == inRight) {
-                return false;
-            }
-            int cast = castOf(beat);
-            if ((cast & ~(bit(inLeft) | bit(inRight))) != 0) {
-                return false;
-            }
-            boolean leftIsWrong = wantOf(inLeft) == Kinds.RIGHT_HAND && contains(cast, inLeft);
-            boolean rightIsWrong = wantOf(inRight) == Kinds.LEFT_HAND && contains(cast, inRight);
-            return !leftIsWrong && !rightIsWrong;
+            return isDollOrNone(inRight) && contains(rightsBeside(beat, inLeft), inRight + 1);
         }
 
         private static int bit(int doll) {
@@ -1184,7 +1190,7 @@ public final class PunchByHeart {
             for (int k = booth.beats - 1; k >= 0; k--) {
                 stepBack(booth, k);
             }
-            return toCome[place(0, booth.left, booth.right)];
+            return worthFrom(0, booth.left, booth.right);
         }
 
         /** Finds the best way of a play that goes. */
@@ -1223,7 +1229,7 @@ public final class PunchByHeart {
                         leaveOut(k);
                     }
                 }
-                if (toCome[place(0, booth.left, booth.right)] <= most) {
+                if (worthFrom(0, booth.left, booth.right) <= most) {
                     return out;
                 }
                 System.arraycopy(toCome, 0, toComeFewer, 0, toCome.length);
@@ -1231,8 +1237,13 @@ public final class PunchByHeart {
             return booth.beats;
         }
 
-        private static int place(int row, int left, int right) {
-            return row * HOLDS + (left + 1) * WIDTH + right + 1;
+        private static int place(int left, int right) {
+            return (left + 1) * WIDTH + right + 1;
+        }
+
+        private int worthFrom(int row, int left, int right) {
+            int at = row * HOLDS + place(left, right);
+            return at >= 0 && at < toCome.length ? toCome[at] : FAR;
         }
 
         private void begin(Booth booth, int what) {
@@ -1253,28 +1264,29 @@ public final class PunchByHeart {
          * takes anything: so each hand, one after the other, either keeps or takes the cheapest.
          */
         private void stepBack(Booth booth, int row) {
+            int here = row * HOLDS;
+            int next = here + HOLDS;
             for (int left = NOTHING; left < booth.dolls; left++) {
+                int rights = booth.rightsBeside(row, left);
                 int cheapest = FAR;
                 for (int right = NOTHING; right < booth.dolls; right++) {
-                    boolean isSuited = booth.isSuited(row, left, right);
-                    int kept = isSuited ? toCome[place(row + 1, left, right)] : FAR;
-                    half[place(0, left, right)] = kept;
-                    cheapest = Math.min(cheapest, kept + prices[right + 1]);
+                    int h = place(left, right);
+                    half[h] = (rights >> right + 1 & 1) != 0 ? toCome[next + h] : FAR;
+                    cheapest = Math.min(cheapest, half[h] + prices[right + 1]);
                 }
                 for (int right = NOTHING; right < booth.dolls; right++) {
-                    int h = place(0, left, right);
+                    int h = place(left, right);
                     half[h] = Math.min(half[h], cheapest);
                 }
             }
             for (int right = NOTHING; right < booth.dolls; right++) {
                 int cheapest = FAR;
                 for (int left = NOTHING; left < booth.dolls; left++) {
-                    int kept = half[place(0, left, right)];
-                    cheapest = Math.min(cheapest, kept + prices[left + 1]);
+                    cheapest = Math.min(cheapest, half[place(left, right)] + prices[left + 1]);
                 }
                 for (int left = NOTHING; left < booth.dolls; left++) {
-                    int kept = half[place(0, left, right)];
-                    toCome[place(row, left, right)] = Math.min(kept, cheapest);
+                    int h = place(left, right);
+                    toCome[here + h] = Math.min(half[h], cheapest);
                 }
             }
         }
@@ -1289,17 +1301,17 @@ public final class PunchByHeart {
 
         /** The place of the first hold for a beat by which nothing of the least worth is lost. */
         private int firstBest(Booth booth, int beat, int left, int right) {
-            int least = toCome[place(beat, left, right)];
+            int least = worthFrom(beat, left, right);
             for (int nextLeft = NOTHING; nextLeft < booth.dolls; nextLeft++) {
                 for (int nextRight = NOTHING; nextRight < booth.dolls; nextRight++) {
-                    int worth = toCome[place(beat + 1, nextLeft, nextRight)]
+                    int worth = worthFrom(beat + 1, nextLeft, nextRight)
                             + move(left, nextLeft) + move(right, nextRight);
                     if (worth == least && booth.isSuited(beat, nextLeft, nextRight)) {
-                        return place(0, nextLeft, nextRight);
+                        return place(nextLeft, nextRight);
                     }
                 }
             }
-            return place(0, left, right);
+            return place(left, right);
         }
 
         private int move(int before, int then) {

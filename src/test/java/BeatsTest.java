@@ -120,5 +120,9 @@ public final class BeatsTest {
         c.is("12 own voices", x.whistle(), 1);
         x.beat(4, 0);
         c.is("12 a wrong beat counts", x.whistle(), 2);
+        x = Check.withDolls(Check.PUNCH, 0);
+        x.beat(1, 0);
+        x.beat(2, 1);
+        c.is("12 another than the first", x.whistle(), 1);
     }
 }
