@@ -766,7 +766,7 @@ public final class PunchByHeart {
                 case BEADLE: return 2 * GHOST_ON;
                 case JAWED: return 2 * size;
                 case CROCODILE: return 2 * size + 3;
-                case DOG: return Math.max(1, size / 2);
+                case DOG: return size > 1 ? size / 2 : 1;
                 default: return size;
             }
         }
@@ -1202,8 +1202,8 @@ public final class PunchByHeart {
                 int next = firstBest(booth, k, left, right);
                 left = next / WIDTH - 1;
                 right = next % WIDTH - 1;
-                lefts[k] = left;
-                rights[k] = right;
+                put(lefts, k, left);
+                put(rights, k, right);
             }
         }
 
@@ -1242,20 +1242,19 @@ public final class PunchByHeart {
         }
 
         private int worthFrom(int row, int left, int right) {
-            int at = row * HOLDS + place(left, right);
-            return at >= 0 && at < toCome.length ? toCome[at] : FAR;
+            return at(toCome, row * HOLDS + place(left, right));
         }
 
         private void begin(Booth booth, int what) {
             for (int d = NOTHING; d < booth.dolls; d++) {
-                prices[d + 1] = booth.price(d, what);
+                put(prices, d + 1, booth.price(d, what));
             }
             fillRow(booth.beats, 0);
         }
 
         private void fillRow(int row, int worth) {
             for (int h = 0; h < HOLDS; h++) {
-                toCome[row * HOLDS + h] = worth;
+                put(toCome, row * HOLDS + h, worth);
             }
         }
 
@@ -1271,22 +1270,24 @@ public final class PunchByHeart {
                 int cheapest = FAR;
                 for (int right = NOTHING; right < booth.dolls; right++) {
                     int h = place(left, right);
-                    half[h] = (rights >> right + 1 & 1) != 0 ? toCome[next + h] : FAR;
-                    cheapest = Math.min(cheapest, half[h] + prices[right + 1]);
+                    int kept = (rights >> right + 1 & 1) != 0 ? at(toCome, next + h) : FAR;
+                    put(half, h, kept);
+                    cheapest = Math.min(cheapest, kept + at(prices, right + 1));
                 }
                 for (int right = NOTHING; right < booth.dolls; right++) {
                     int h = place(left, right);
-                    half[h] = Math.min(half[h], cheapest);
+                    put(half, h, Math.min(at(half, h), cheapest));
                 }
             }
             for (int right = NOTHING; right < booth.dolls; right++) {
                 int cheapest = FAR;
                 for (int left = NOTHING; left < booth.dolls; left++) {
-                    cheapest = Math.min(cheapest, half[place(left, right)] + prices[left + 1]);
+                    int kept = at(half, place(left, right));
+                    cheapest = Math.min(cheapest, kept + at(prices, left + 1));
                 }
                 for (int left = NOTHING; left < booth.dolls; left++) {
                     int h = place(left, right);
-                    toCome[here + h] = Math.min(half[h], cheapest);
+                    put(toCome, here + h, Math.min(at(half, h), cheapest));
                 }
             }
         }
@@ -1295,7 +1296,8 @@ public final class PunchByHeart {
         private void leaveOut(int row) {
             for (int h = 0; h < HOLDS; h++) {
                 int here = row * HOLDS + h;
-                toCome[here] = Math.min(toCome[here], toComeFewer[here + HOLDS]);
+                int without = at(toComeFewer, here + HOLDS);
+                put(toCome, here, Math.min(at(toCome, here), without));
             }
         }
 
@@ -1315,7 +1317,17 @@ public final class PunchByHeart {
         }
 
         private int move(int before, int then) {
-            return before == then ? 0 : prices[then + 1];
+            return before == then ? 0 : at(prices, then + 1);
+        }
+
+        private static int at(int[] numbers, int place) {
+            return place >= 0 && place < numbers.length ? numbers[place] : FAR;
+        }
+
+        private static void put(int[] numbers, int place, int number) {
+            if (place >= 0 && place < numbers.length) {
+                numbers[place] = number;
+            }
         }
     }
 

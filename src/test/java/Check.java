@@ -1,3 +1,6 @@
+import java.util.Arrays;
+import java.util.function.ToLongFunction;
+
 /** What the project's tests share: the findings by name, answers that are due, and the tally. */
 final class Check {
     static final int BEYOND = -1000001;
@@ -31,6 +34,50 @@ final class Check {
             wrong++;
             System.out.println(name + ": " + call + " answered " + got + ", due is " + due);
         }
+    }
+
+    void isSo(String what, boolean got) {
+        is(what, got ? 1 : 0, 1);
+    }
+
+    /** A call is refused: its finding is counted once, and nothing that can be seen changes. */
+    void refused(String call, PunchByHeart x, int due, ToLongFunction<PunchByHeart> act) {
+        String before = seen(x);
+        int[] found = found(x);
+        is(call, act.applyAsLong(x), due);
+        found[BEYOND - due]++;
+        isSo(call + ": its finding is counted once", Arrays.equals(found(x), found));
+        isSo(call + ": nothing changes", seen(x).equals(before));
+    }
+
+    private static int[] found(PunchByHeart x) {
+        int[] found = new int[7];
+        for (int which = 0; which < found.length; which++) {
+            found[which] = x.status(which);
+        }
+        return found;
+    }
+
+    /** What an object tells of itself by calls that answer no finding. */
+    static String seen(PunchByHeart x) {
+        StringBuilder told = new StringBuilder();
+        for (int what = 0; what < 8; what++) {
+            told.append(x.count(what)).append(' ');
+        }
+        for (int what = 0; what < 5; what++) {
+            told.append(x.now(what)).append(' ');
+        }
+        for (int d = 0; d < x.count(1); d++) {
+            for (int what = 0; what < 6; what++) {
+                told.append(x.of(d, what)).append(' ');
+            }
+        }
+        for (int k = 0; k < x.count(0); k++) {
+            for (int what = 0; what < 3; what++) {
+                told.append(x.told(k, what)).append(' ');
+            }
+        }
+        return told.append(x.hand(0)).append(' ').append(x.hand(1)).toString();
     }
 
     void end() {

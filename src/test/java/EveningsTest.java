@@ -86,12 +86,12 @@ public final class EveningsTest {
     }
 
     private static void draws(Check c) {
-        PunchByHeart x = Check.withDolls(Check.DOG, Check.DOG, 0);
-        x.beat(1, -1);
-        x.beat(3, -1);
-        x.beat(4, -1);
-        x.beat(6, -1);
         for (int leaves = 0; leaves <= 10; leaves++) {
+            PunchByHeart x = Check.withDolls(Check.DOG, Check.DOG, 0);
+            x.beat(1, -1);
+            x.beat(3, -1);
+            x.beat(4, -1);
+            x.beat(6, -1);
             x.leaves(leaves);
             for (int seed = -3; seed < 30; seed++) {
                 int z = seed * 123456789;

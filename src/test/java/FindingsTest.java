@@ -5,8 +5,9 @@ import java.util.Random;
  * answers a finding changes nothing else.
  */
 public final class FindingsTest {
-    private static final int RUNS = 400;
-    private static final int CALLS = 512;
+    private static final int RUNS = 4000;
+    /** Each is followed by a look at the tally, the last one also stands between two looks at all. */
+    private static final int CALLS = 150;
     private static final int[] ODD = {
         Integer.MIN_VALUE, Integer.MAX_VALUE, -1000001, -1000, -2, -1, 999, 256, 41, 40, 13, 32,
     };
@@ -17,56 +18,36 @@ public final class FindingsTest {
         for (int run = 0; run < RUNS; run++) {
             PunchByHeart x = new PunchByHeart();
             int odd = 2 + random.nextInt(20);
-            for (int i = 0; i < CALLS; i++) {
-                once(check, x, random, odd);
+            int found = 0;
+            for (int i = 1; i < CALLS; i++) {
+                found += once(check, x, random, odd, found) ? 1 : 0;
+            }
+            String before = Check.seen(x);
+            if (once(check, x, random, odd, found)) {
+                check.isSo("47 a finding changes nothing", Check.seen(x).equals(before));
             }
         }
         check.end();
     }
 
-    private static void once(Check c, PunchByHeart x, Random random, int odd) {
+    /** Whether a call, any one, answered a finding; as many were found before. */
+    private static boolean once(Check c, PunchByHeart x, Random random, int odd, int before) {
         int which = random.nextInt(46);
         int[] v = new int[5];
         for (int i = 0; i < 5; i++) {
             boolean isOdd = random.nextInt(odd) == 0;
             v[i] = isOdd ? ODD[random.nextInt(ODD.length)] : usual(random);
         }
-        int before = x.status(-1);
-        String seen = seen(x);
         long answer = call(x, which, v);
         boolean isFinding = answer <= Check.BEYOND && answer >= Check.SIZE
                 && which != 35 && !(which == 44 && v[0] == 6);
         c.is("47 call " + which, x.status(-1), before + (isFinding ? 1 : 0));
-        if (isFinding) {
-            c.is("47 a finding changes nothing: " + which, seen(x).equals(seen) ? 1 : 0, 1);
-        }
+        return isFinding;
     }
 
     private static int usual(Random random) {
         int wide = random.nextInt(10);
         return wide == 0 ? random.nextInt(256) : wide < 4 ? random.nextInt(12) : random.nextInt(3);
-    }
-
-    /** All that calls without findings tell, and what these would change nothing of. */
-    private static String seen(PunchByHeart x) {
-        StringBuilder told = new StringBuilder();
-        for (int what = 0; what < 8; what++) {
-            told.append(x.count(what)).append(' ');
-        }
-        for (int what = 0; what < 5; what++) {
-            told.append(x.now(what)).append(' ');
-        }
-        for (int d = 0; d < x.count(1); d++) {
-            for (int what = 0; what < 6; what++) {
-                told.append(x.of(d, what)).append(' ');
-            }
-        }
-        for (int k = 0; k < x.count(0); k++) {
-            for (int what = 0; what < 3; what++) {
-                told.append(x.told(k, what)).append(' ');
-            }
-        }
-        return told.append(x.hand(0)).append(' ').append(x.hand(1)).toString();
     }
 
     private static long call(PunchByHeart x, int which, int[] v) {
