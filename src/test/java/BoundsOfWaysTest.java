@@ -367,6 +367,14 @@ public final class BoundsOfWaysTest {
         String before = Check.seen(x);
         x.ahead(20);
         c.isSo("31 nothing changes", Check.seen(x).equals(before));
+        PunchByHeart y = Check.withDolls(Check.DOG);
+        y.leaves(10);
+        for (int k = 0; k < 12; k++) {
+            y.beat(1, 0);
+        }
+        String all = Check.seen(y);
+        c.is("31 as many as can be", y.ahead(20), 240);
+        c.isSo("31 nothing changes, if all are lost", Check.seen(y).equals(all));
     }
 
     private void promise32Seed() {

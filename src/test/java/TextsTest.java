@@ -6,6 +6,7 @@ public final class TextsTest {
         wipe(check);
         whole(check);
         tokens(check);
+        bytes(check);
         dolls(check);
         beats(check);
         leaves(check);
@@ -118,6 +119,31 @@ public final class TextsTest {
         good(c, "", "doll size 0003", 1);
         good(c, "", "doll ", 1);
         good(c, "", "doll;doll;doll;beat007speaks00", 4);
+    }
+
+    /** Each byte behind a word, ahead of one, behind a number, and between a word and a number. */
+    private static void bytes(Check c) {
+        for (int b = 0; b < 256; b++) {
+            boolean isLetter = b >= 'a' && b <= 'z';
+            boolean isDigit = b >= '0' && b <= '9';
+            char sign = (char) b;
+            if (b == ' ') {
+                good(c, "", "doll" + sign, 1);
+                good(c, "", sign + "doll", 1);
+                good(c, "", "leaves 1" + sign, 1);
+                good(c, "", "leaves" + sign + "1", 1);
+                continue;
+            }
+            fault(c, "", "doll" + sign, isLetter ? 0 : b == ';' ? 5 : 4);
+            fault(c, "", sign + "doll", 0);
+            if (b == '0') {
+                good(c, "", "leaves 1" + sign, 1);
+                good(c, "", "leaves" + sign + "1", 1);
+                continue;
+            }
+            fault(c, "", "leaves 1" + sign, isDigit ? 7 : b == ';' ? 9 : 8);
+            fault(c, "", "leaves" + sign + "1", isLetter ? 0 : 6);
+        }
     }
 
     private static void dolls(Check c) {
